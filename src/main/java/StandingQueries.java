@@ -11,11 +11,8 @@ public final class StandingQueries {
     private static final int HAS = 0, LACKS = 1, NEAR = 2;
     private static final int FAULT_BASE = -10;
 
-    private final int[] text = new int[MOST_BYTES];
-    private int typed;
+    private final Text text = new Text();
     private final Held held = new Held();
-    private final Held draft = new Held();
-    private final Reader reader = new Reader(text, draft);
     private final History history = new History();
     private final Held[] images = new Held[IMAGES];
     private final Words words = new Words(MOST_WORDS);
@@ -33,30 +30,24 @@ public final class StandingQueries {
         if (c < 0 || c > 255) {
             return BAD;
         }
-        if (typed >= MOST_BYTES) {
-            return FULL;
-        }
-        text[typed] = c;
-        typed++;
-        return typed;
+        return text.append(c) ? text.size : FULL;
     }
 
     public int clear() {
-        int had = typed;
-        typed = 0;
+        int had = text.size;
+        text.size = 0;
         return had;
     }
 
     public int adds() {
-        draft.take(held);
-        int fault = reader.readQueries(typed);
+        int fault = text.readBehind(held);
         if (fault >= 0) {
             return FAULT_BASE - fault;
         }
-        int told = draft.queries - held.queries;
+        int told = text.draft.queries - held.queries;
         history.push(held);
-        held.take(draft);
-        typed = 0;
+        held.take(text.draft);
+        text.size = 0;
         rebuild();
         return told;
     }
@@ -290,7 +281,7 @@ public final class StandingQueries {
             case 4:
                 return history.known;
             case 5:
-                return typed;
+                return text.size;
             default:
                 return BAD;
         }
@@ -453,11 +444,13 @@ public final class StandingQueries {
 
     /** Its rows are large, so that an object that is never asked for them does without. */
     private Search searchFor(int q) {
-        if (search == null) {
-            search = new Search();
+        Search sought = search;
+        if (sought == null) {
+            sought = new Search();
+            search = sought;
         }
-        search.prepare(held, q);
-        return search;
+        sought.prepare(held, q);
+        return sought;
     }
 
     /**
@@ -666,29 +659,33 @@ public final class StandingQueries {
         }
     }
 
-    /** Reads the text token by token; the token at hand is the fault, as soon as it can't stand. */
-    private static final class Reader {
+    /** Bytes, read token by token; the token at hand is the fault, as soon as it can't stand. */
+    private static final class Text {
         private static final int END = 0, LETTERS = 1, NUMERAL = 2, STOP = 3, WRONG = 4;
 
-        private final int[] text;
-        private final Held into;
+        private final int[] bytes = new int[MOST_BYTES];
+        int size;
+        final Held draft = new Held();
         private final Words words = new Words(MOST_WORDS);
-        private int size;
         private int begin;
         private int end;
         private int kind;
         private int queriesBefore;
 
-        Reader(int[] text, Held into) {
-            this.text = text;
-            this.into = into;
+        boolean append(int c) {
+            if (size >= MOST_BYTES) {
+                return false;
+            }
+            bytes[size] = c;
+            size++;
+            return true;
         }
 
-        /** The queries come behind those that are there: the place of the fault, or NONE. */
-        int readQueries(int typed) {
-            queriesBefore = into.queries;
-            words.gatherAll(into);
-            size = Math.min(typed, text.length);
+        /** The draft becomes what is held with the queries told behind it: the place of the fault, or NONE. */
+        int readBehind(Held held) {
+            draft.take(held);
+            queriesBefore = held.queries;
+            words.gatherAll(held);
             end = 0;
             advance();
             for (int items = 0; items < MOST_BYTES && kind != END; items++) {
@@ -700,22 +697,22 @@ public final class StandingQueries {
         }
 
         private boolean hasOpenQuery() {
-            return into.queries > queriesBefore;
+            return draft.queries > queriesBefore;
         }
 
         private boolean lacksParts() {
-            return hasOpenQuery() && into.partsOfLast() == 0;
+            return hasOpenQuery() && draft.partsOfLast() == 0;
         }
 
         private boolean mayHavePart() {
-            return hasOpenQuery() && into.partsOfLast() < MOST_PARTS;
+            return hasOpenQuery() && draft.partsOfLast() < MOST_PARTS;
         }
 
         private boolean readItem() {
             if (kind != LETTERS || end - begin != 1) {
                 return false;
             }
-            switch (text[begin]) {
+            switch (bytes[begin]) {
                 case 'q':
                     return readQuery();
                 case 'h':
@@ -730,7 +727,7 @@ public final class StandingQueries {
         }
 
         private boolean readQuery() {
-            if (lacksParts() || !into.startQuery()) {
+            if (lacksParts() || !draft.startQuery()) {
                 return false;
             }
             advance();
@@ -746,12 +743,12 @@ public final class StandingQueries {
             if (code == Packed.NO_WORD) {
                 return false;
             }
-            into.addPart(sort, code, Packed.NO_WORD, 0);
+            draft.addPart(sort, code, Packed.NO_WORD, 0);
             return readStop();
         }
 
         private boolean readNear() {
-            if (!mayHavePart() || into.lastHasNear()) {
+            if (!mayHavePart() || draft.lastHasNear()) {
                 return false;
             }
             advance();
@@ -763,10 +760,10 @@ public final class StandingQueries {
             if (code == Packed.NO_WORD) {
                 return false;
             }
-            if (kind != NUMERAL || end - begin != 1 || text[begin] == '0') {
+            if (kind != NUMERAL || end - begin != 1 || bytes[begin] == '0') {
                 return false;
             }
-            into.addPart(NEAR, code, earlier, text[begin] - '0');
+            draft.addPart(NEAR, code, earlier, bytes[begin] - '0');
             advance();
             return readStop();
         }
@@ -786,10 +783,10 @@ public final class StandingQueries {
             }
             int code = Packed.NO_WORD;
             for (int i = begin; i < end; i++) {
-                if (!isLetter(text[i])) {
+                if (!isLetter(bytes[i])) {
                     return Packed.NO_WORD;
                 }
-                code = Packed.withLetter(code, i - begin, text[i] - FIRST_LETTER);
+                code = Packed.withLetter(code, i - begin, bytes[i] - FIRST_LETTER);
             }
             if (!words.put(code)) {
                 return Packed.NO_WORD;
@@ -800,7 +797,7 @@ public final class StandingQueries {
 
         private void advance() {
             begin = end;
-            while (begin < size && text[begin] == ' ') {
+            while (begin < size && bytes[begin] == ' ') {
                 begin++;
             }
             end = begin;
@@ -808,9 +805,9 @@ public final class StandingQueries {
                 kind = END;
                 return;
             }
-            kind = kindOf(text[begin]);
+            kind = kindOf(bytes[begin]);
             end++;
-            while (end < size && (kind == LETTERS || kind == NUMERAL) && kindOf(text[end]) == kind) {
+            while (end < size && (kind == LETTERS || kind == NUMERAL) && kindOf(bytes[end]) == kind) {
                 end++;
             }
         }

@@ -165,6 +165,8 @@ public final class PromiseTests {
         "q;p i b 1;", "4", "q;p a i 1;", "6", "q;p a b 1;p a b 1;", "10", "q;p a b 1;h c;p", "14",
         "q;h a;h b;h c;h d;h e;", "18", "q;h a;h a;h a;h a;n a;", "18", "q;h a;h b;h c;h d;p a b 1;", "18",
         "q;h a;q;q;", "8", "q;h a;q;", "8", "q;h a;q", "7", "q;h a;q;  ", "10", "q;h a;\t", "6", "\n", "0", "q;h a.", "5",
+        "q;h a;p q;h b;", "8", "q;h a;p a q;h b;", "10", "q;h a;h q;h b;", "8", "q q;h a;", "2", "q;h a h b;", "6",
+        "q;p a b h c;", "8", "q;p a b 1 h c;", "10", "q;h a;n n;", "8", "q;h h;p p;", "8",
         "-", "0", "q;h a;Q;", "6", "q;h a;h b;h c;h d;x", "18", "q;h 007;", "4", "007", "0", "   ,", "3", "q;h a,b;", "5",
         "q;h a;q;h b;q;h c;q;h d;q;h e;q;h f;q;h g;q;h h;q;h a;", "48",
         "q;h a;q;h b;q;h c;q;h d;q;h e;q;h f;q;h g;q;h h;q", "48",
@@ -539,6 +541,13 @@ public final class PromiseTests {
         due("count(1)", x.count(1), 16);
         due("count(2)", x.count(2), 1 + 8 + 16 * 5);
         due("node(88, 4)", x.node(88, 4), 1 << 15);
+        due("node(89, 4)", x.node(89, 4), BAD);
+        feed(x, "abcdefhbcdef");
+        due("now(5) with 16 words", x.now(5), 2);
+        due("hit(15, 0)", x.hit(15, 0), 11);
+        due("word(15, 0)", x.word(15, 0), 'h');
+        due("hit(16, -1)", x.hit(16, -1), BAD);
+        due("word(16, -1)", x.word(16, -1), BAD);
     }
 
     private static void next() {
@@ -662,6 +671,29 @@ public final class PromiseTests {
         due("NONE", StandingQueries.NONE, NONE);
     }
 
+    /** Numbers far from any that is told: each call refuses them, and nothing changes. */
+    private static void farNumbers() {
+        StandingQueries x = with("q;h abc;p ab c 9;q;n hhhhhh;", "abcabc");
+        x.keep(0);
+        types(x, "q;");
+        String before = all(x);
+        for (int far : new int[] {Integer.MIN_VALUE, Integer.MIN_VALUE + 1, -1000, 1000, 1 << 30, Integer.MAX_VALUE}) {
+            long[] answers = {
+                x.type(far), x.drops(far), x.feeds(far), x.query(far, 0), x.query(0, far), x.query(far, far), x.part(far, 0, 0),
+                x.part(0, far, 0), x.part(0, 0, far), x.shortest(far, -1), x.more(far), x.many(far, 0), x.many(0, far),
+                x.word(far, -1), x.hit(far, -1), x.node(far, 0), x.node(0, far), x.next(far, 'a'), x.next(0, far), x.letter(far),
+                x.now(far), x.keep(far), x.back(far), x.count(far)};
+            for (int i = 0; i < answers.length; i++) {
+                due("call " + i + " with " + far, answers[i], BAD);
+            }
+            int behind = far < 0 ? BAD : NONE;
+            due("shortest(0, " + far + ")", x.shortest(0, far), behind);
+            due("word(0, " + far + ")", x.word(0, far), behind);
+            due("hit(0, " + far + ")", x.hit(0, far), behind);
+        }
+        same("all", all(x), before);
+    }
+
     private interface Check {
         void run();
     }
@@ -695,6 +727,7 @@ public final class PromiseTests {
         check("20 keep", PromiseTests::keep);
         check("21 back", PromiseTests::back);
         check("22 count", PromiseTests::count);
+        check("far numbers", PromiseTests::farNumbers);
         System.out.println(wrong == 0 ? asked + " answers are as due" : wrong + " answers are not as due");
         if (wrong != 0) {
             System.exit(1);
