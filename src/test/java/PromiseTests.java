@@ -1,107 +1,5 @@
-import java.util.ArrayList;
-import java.util.List;
-
 /** For each promise of the document: ordinary inputs, the edges that it names, wrong inputs. */
-public final class PromiseTests {
-    private static final int BAD = -1, STATE = -2, FULL = -3, NONE = -9;
-    private static int wrong = 0;
-    private static int asked = 0;
-    private static String promise = "";
-
-    private static void due(String call, long got, long want) {
-        asked++;
-        if (got != want) {
-            wrong++;
-            System.out.println(promise + ": " + call + " answered " + got + ", due is " + want);
-        }
-    }
-
-    private static void types(StandingQueries x, String text) {
-        for (int i = 0; i < text.length(); i++) {
-            x.type(text.charAt(i));
-        }
-    }
-
-    private static int added(StandingQueries x, String text) {
-        x.clear();
-        types(x, text);
-        return x.adds();
-    }
-
-    private static StandingQueries with(String text) {
-        StandingQueries x = new StandingQueries();
-        due("adds() of " + text, added(x, text) > 0 ? 1 : 0, 1);
-        return x;
-    }
-
-    private static StandingQueries with(String text, String letters) {
-        StandingQueries x = with(text);
-        feed(x, letters);
-        return x;
-    }
-
-    private static void feed(StandingQueries x, String letters) {
-        for (int i = 0; i < letters.length(); i++) {
-            x.feeds(letters.charAt(i));
-        }
-    }
-
-    private static String lettersOf(StandingQueries x) {
-        StringBuilder row = new StringBuilder();
-        for (int i = 0; i < x.count(3); i++) {
-            row.append((char) x.letter(i));
-        }
-        return row.toString();
-    }
-
-    private static String wordOf(StandingQueries x, int w) {
-        StringBuilder row = new StringBuilder();
-        for (int i = 0; i < x.word(w, -1); i++) {
-            row.append((char) x.word(w, i));
-        }
-        return row.toString();
-    }
-
-    /** All that can be seen of an object, so that a refusal can be seen to change nothing. */
-    private static String all(StandingQueries x) {
-        return held(x) + " " + x.count(4) + " " + x.count(5);
-    }
-
-    /** What an image keeps: queries and letters, and all that follows from them. */
-    private static String held(StandingQueries x) {
-        List<Long> seen = new ArrayList<>();
-        for (int what = 0; what < 6; what++) {
-            seen.add((long) x.now(what));
-            if (what < 4) {
-                seen.add((long) x.count(what));
-            }
-        }
-        for (int q = 0; q < x.count(0); q++) {
-            for (int what = 0; what < 5; what++) {
-                seen.add((long) x.query(q, what));
-                for (int k = 0; k < x.query(q, 0); k++) {
-                    seen.add((long) x.part(q, k, what));
-                }
-            }
-        }
-        StringBuilder words = new StringBuilder();
-        for (int w = 0; w < x.count(1); w++) {
-            words.append(wordOf(x, w)).append(' ');
-            for (int k = -1; k < x.hit(w, -1); k++) {
-                seen.add((long) x.hit(w, k));
-            }
-        }
-        return seen + " " + words + lettersOf(x);
-    }
-
-    private static void same(String what, String got, String want) {
-        asked++;
-        if (!got.equals(want)) {
-            wrong++;
-            System.out.println(promise + ": " + what + " is " + got + ", due is " + want);
-        }
-    }
-
+public final class PromiseTests extends Cases {
     private static void newObject() {
         StandingQueries x = new StandingQueries();
         int[] counts = {0, 0, 1, 0, 0, 0};
@@ -694,15 +592,6 @@ public final class PromiseTests {
         same("all", all(x), before);
     }
 
-    private interface Check {
-        void run();
-    }
-
-    private static void check(String name, Check check) {
-        promise = name;
-        check.run();
-    }
-
     public static void main(String[] args) {
         check("constants", PromiseTests::constants);
         check("1 a new object", PromiseTests::newObject);
@@ -728,9 +617,6 @@ public final class PromiseTests {
         check("21 back", PromiseTests::back);
         check("22 count", PromiseTests::count);
         check("far numbers", PromiseTests::farNumbers);
-        System.out.println(wrong == 0 ? asked + " answers are as due" : wrong + " answers are not as due");
-        if (wrong != 0) {
-            System.exit(1);
-        }
+        end();
     }
 }
