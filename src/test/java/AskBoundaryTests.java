@@ -82,6 +82,19 @@ public final class AskBoundaryTests extends Cases {
         due("KEY beside longer WORDS", with("q;h a;n bbbbbb;p cccccc dddddd 1;").query(0, 3), 0);
     }
 
+    /** What stands behind the PARTS of a QUERY, the next one's or what went, is none of its own. */
+    private static void keyOfItsOwnWords() {
+        due("KEY ahead of another QUERY", with("q;h a;n b;n c;n d;q;h hhhhhh;").query(0, 3), 0);
+        StandingQueries x = with("q;h a;h hhhhhh;q;h b;");
+        x.drops(0);
+        due("adds()", added(x, "q;h hhhhhh;"), 1);
+        due("KEY where a longer one was", x.query(0, 3), 0);
+        due("query(0, 4)", x.query(0, 4), 0);
+        feed(x, "b");
+        due("query(0, 4)", x.query(0, 4), 1);
+        due("query(0, 1)", x.query(0, 1), 1);
+    }
+
     private static void askedByKey() {
         StandingQueries x = with("q;h ab;h b;");
         due("query(0, 4) of none", x.query(0, 4), 0);
@@ -269,6 +282,39 @@ public final class AskBoundaryTests extends Cases {
         due("more(0)", x.more(0), NONE);
         due("many(0, 2)", x.many(0, 2), 1);
         due("shortest(0, 1) behind more(0)", x.shortest(0, 1), 'b');
+    }
+
+    /** As many nodes as one QUERY can have: five WORDS that share no beginning, three HAS and a NEAR. */
+    private static void rowsOfTheLargestQuery() {
+        StandingQueries x = with("q;h aaaaaa;h bbbbbb;h cccccc;p dddddd eeeeee 9;", "dddddd");
+        due("count(2)", x.count(2), 31);
+        due("many(0, 12)", x.many(0, 12), 0);
+        due("shortest(0, -1)", x.shortest(0, -1), 30);
+        due("shortest(0, 0)", x.shortest(0, 0), 'a');
+        due("shortest(0, 29)", x.shortest(0, 29), 'e');
+        due("more(0)", x.more(0), 24);
+        feed(x, "hhh");
+        due("more(0), just near enough", x.more(0), 24);
+        feed(x, "h");
+        due("more(0), just too far", x.more(0), 30);
+    }
+
+    /** Each QUERY is asked on its own, whatever was asked ahead of it. */
+    private static void rowsOfOneQueryAlone() {
+        StandingQueries x = with("q;p ab ba 9;h c;h d;h e;q;n a;q;h f;n g;q;h h;h gh;h fgh;h efgh;");
+        int[] sizes = {6, 0, 1, 4};
+        long[] twos = {0, 49, 13, 0};
+        for (int times = 0; times < 2; times++) {
+            for (int q = 0; q < 4; q++) {
+                due("shortest(" + q + ", -1)", x.shortest(q, -1), sizes[q]);
+                due("more(" + q + ")", x.more(q), sizes[q]);
+                due("many(" + q + ", 2)", x.many(q, 2), twos[q]);
+            }
+        }
+        StandingQueries y = with("q;h b;n ab;", "a");
+        due("shortest(0, -1)", y.shortest(0, -1), 1);
+        due("more(0) by another letter between", y.more(0), 2);
+        due("shortest(0, -1) again", y.shortest(0, -1), 1);
     }
 
     private static void moreBad() {
@@ -588,6 +634,7 @@ public final class AskBoundaryTests extends Cases {
         for (int what = 0; what < want.length; what++) {
             due("count(" + what + ")", x.count(what), want[what]);
         }
+        due("now(5) of 16 WORDS", x.now(5), 5);
     }
 
     private static void askingChangesNothing() {
@@ -612,6 +659,7 @@ public final class AskBoundaryTests extends Cases {
         check("KEY: that of most letters", AskBoundaryTests::keyOfMostLetters);
         check("KEY: of several the lowest number", AskBoundaryTests::keyOfLowestNumber);
         check("KEY: NONE", AskBoundaryTests::keyNone);
+        check("KEY: of its WORDS", AskBoundaryTests::keyOfItsOwnWords);
         check("ASKED: whose KEY has a HIT", AskBoundaryTests::askedByKey);
         check("ASKED: or is NONE", AskBoundaryTests::askedWithoutKey);
         check("part: BAD", AskBoundaryTests::partBad);
@@ -631,6 +679,8 @@ public final class AskBoundaryTests extends Cases {
         check("SHORTEST: the fewest letters", AskBoundaryTests::shortestLeastAndMost);
         check("SHORTEST: the first by letters", AskBoundaryTests::shortestFirstByLetters);
         check("SHORTEST: by which alone it MATCHES", AskBoundaryTests::shortestWithoutTheLetters);
+        check("SHORTEST, MORE, MANY of the largest QUERY", AskBoundaryTests::rowsOfTheLargestQuery);
+        check("SHORTEST, MORE, MANY of one QUERY alone", AskBoundaryTests::rowsOfOneQueryAlone);
         check("more: BAD", AskBoundaryTests::moreBad);
         check("MORE: the fewest letters", AskBoundaryTests::moreLeastAndMost);
         check("MORE: NONE", AskBoundaryTests::moreNone);

@@ -235,6 +235,17 @@ public final class ChangeBoundaryTests extends Cases {
         same("held", held(x), before);
     }
 
+    private static void undoOfLettersWrittenOver() {
+        StandingQueries x = with("q;h ab;", "ab");
+        x.cuts();
+        x.feeds('c');
+        due("undo() of FED", x.undo(), 4);
+        same("letters", lettersOf(x), "a");
+        due("undo() of CUT", x.undo(), 3);
+        same("letters", lettersOf(x), "ab");
+        due("now(1)", x.now(1), 1);
+    }
+
     private static void undoAtTheMost() {
         StandingQueries x = with("q;h a;h b;h c;h d;q;h e;h f;h g;h h;q;h aa;h ab;h ac;h ad;q;h ae;h af;h ag;p ah ah 1;"
             + "q;n a;q;n b;q;n c;q;n d;", FORTY);
@@ -356,6 +367,10 @@ public final class ChangeBoundaryTests extends Cases {
         x.undo();
         due("back(0)", x.back(0), 1);
         same("held", held(x), kept);
+        x.cuts();
+        x.feeds('h');
+        due("back(0) from letters written over", x.back(0), 1);
+        same("held", held(x), kept);
     }
 
     private static void backBadAheadOfState() {
@@ -462,6 +477,7 @@ public final class ChangeBoundaryTests extends Cases {
         check("undo: the tenth is known", ChangeBoundaryTests::undoOfExactlyTen);
         check("undo: round and round", ChangeBoundaryTests::undoGoesRound);
         check("undo: FED, CUT, ADDED, DROPPED", ChangeBoundaryTests::undoOfEach);
+        check("undo: letters written over", ChangeBoundaryTests::undoOfLettersWrittenOver);
         check("undo: from the most to the most", ChangeBoundaryTests::undoAtTheMost);
         check("undo: ADDED of no QUERY", ChangeBoundaryTests::undoOfNoneAdded);
         check("undo: of nothing else", ChangeBoundaryTests::undoOfNothingElse);

@@ -94,6 +94,8 @@ public final class TextBoundaryTests extends Cases {
         faultOf("q;p a b 1;p c d 1;", 10);
         StandingQueries x = with("q;p a b 1;");
         due("adds() of one more in a QUERY of its own", added(x, "q;h a;p a b 1;"), 1);
+        x.drops(1);
+        due("adds() of one more where one went", added(x, "q;h a;p a b 1;"), 1);
     }
 
     private static void sixteenWords() {
