@@ -133,6 +133,10 @@ public final class AskBoundaryTests extends Cases {
             due("part(" + far + ", 0, 0)", x.part(far, 0, 0), BAD);
             due("part(0, " + far + ", 0)", x.part(0, far, 0), BAD);
         }
+        x.drops(0);
+        due("part(1, 0, 0) of what went", x.part(1, 0, 0), BAD);
+        x.drops(0);
+        due("part(0, 0, 0) of what went", x.part(0, 0, 0), BAD);
     }
 
     private static void partBadWhat() {
@@ -163,11 +167,11 @@ public final class AskBoundaryTests extends Cases {
         x.drops(0);
         due("part(0, 0, 2)", x.part(0, 0, 2), NONE);
         due("part(0, 0, 3)", x.part(0, 0, 3), NONE);
-        x.drops(0);
-        due("adds()", added(x, "q;n b;"), 1);
-        due("part(0, 0, 2)", x.part(0, 0, 2), NONE);
-        due("part(0, 0, 3)", x.part(0, 0, 3), NONE);
-        due("count(1)", x.count(1), 1);
+        StandingQueries y = with("q;p a b 9;");
+        y.drops(0);
+        due("adds()", added(y, "q;n b;h a;"), 1);
+        due("part(0, 0, 2)", y.part(0, 0, 2), NONE);
+        due("part(0, 0, 3)", y.part(0, 0, 3), NONE);
     }
 
     private static void hasAndLacks() {

@@ -6,6 +6,7 @@ import java.util.Set;
 /** What the tests by hand share: named cases, the answers that are due, and ways to make objects. */
 abstract class Cases {
     static final int BAD = -1, STATE = -2, FULL = -3, NONE = -9;
+    static final Set<String> NAMES = new LinkedHashSet<>();
     static final Set<String> FAILED = new LinkedHashSet<>();
     static boolean quiet = false;
     private static int asked = 0;
@@ -18,6 +19,9 @@ abstract class Cases {
     /** A case fails, too, if the class throws in it: no call ever may. */
     static void check(String caseName, Check check) {
         name = caseName;
+        if (!NAMES.add(name)) {
+            fail("there are two cases of that name");
+        }
         try {
             check.run();
         } catch (RuntimeException thrown) {

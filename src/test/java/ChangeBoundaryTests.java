@@ -247,9 +247,8 @@ public final class ChangeBoundaryTests extends Cases {
     }
 
     private static void undoAtTheMost() {
-        StandingQueries x = with("q;h a;h b;h c;h d;q;h e;h f;h g;h h;q;h aa;h ab;h ac;h ad;q;h ae;h af;h ag;p ah ah 1;"
-            + "q;n a;q;n b;q;n c;q;n d;", FORTY);
-        String before = queriesOf(x);
+        String before = "q;h a;h b;h c;h d;q;h e;h f;h g;h h;q;h aa;h ab;h ac;h ad;q;h ae;h af;h ag;p ah ah 1;q;n a;q;n b;q;n c;q;n d;";
+        StandingQueries x = with(before, FORTY);
         x.cuts();
         due("undo() of a CUT from 40", x.undo(), 9);
         due("count(3)", x.count(3), 40);
@@ -258,6 +257,11 @@ public final class ChangeBoundaryTests extends Cases {
         x.drops(3);
         due("count(1)", x.count(1), 12);
         due("undo() of a DROPPED from 8", x.undo(), 9);
+        same("queries", queriesOf(x), before);
+        x.drops(7);
+        due("adds() of another eighth", added(x, "q;n a;h b;"), 1);
+        due("undo() of ADDED", x.undo(), 9);
+        due("undo() of DROPPED", x.undo(), 8);
         same("queries", queriesOf(x), before);
         due("count(1)", x.count(1), 16);
     }
@@ -319,14 +323,15 @@ public final class ChangeBoundaryTests extends Cases {
     private static void keepEmptyAndFull() {
         StandingQueries x = new StandingQueries();
         due("keep(0) of nothing", x.keep(0), 0);
-        added(x, "q;h a;q;h b;q;h c;q;h d;q;h e;q;h f;q;h g;q;p h a 9;");
+        String most = "q;h a;q;h b;q;h c;q;h d;q;h e;q;h f;q;h g;q;p h a 9;";
+        due("adds() of 8", added(x, most), 8);
         feed(x, FORTY);
         due("keep(1) of 8", x.keep(1), 8);
-        String most = queriesOf(x);
         due("back(0)", x.back(0), 0);
         due("count(1)", x.count(1), 0);
         due("count(2)", x.count(2), 1);
         due("count(3)", x.count(3), 0);
+        due("adds() of another 8", added(x, "q;h a;n b;".repeat(8)), 8);
         due("back(1)", x.back(1), 8);
         same("queries", queriesOf(x), most);
         same("letters", lettersOf(x), FORTY);

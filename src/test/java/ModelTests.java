@@ -605,7 +605,7 @@ public final class ModelTests {
 
     private void addText() {
         String text = randomText();
-        if (calls + text.length() > CALLS) {
+        if (calls + text.length() + 2 > CALLS) {
             return;
         }
         log.append("'").append(text).append("' ");
