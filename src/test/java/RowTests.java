@@ -2,7 +2,7 @@ import java.util.Arrays;
 import java.util.Random;
 
 /**
- * SHORTEST, MORE and MANY against every row of up to six letters, one after the other: nothing is known here
+ * SHORTEST, MORE and MANY against every row of up to five or six letters, one after the other: nothing is known here
  * of nodes or of states, so that a wrong thought about those can't stand on both sides.
  */
 public final class RowTests extends Cases {
